@@ -1,4 +1,7 @@
-/** Each promise by itself, with answers worked out by hand from the document. */
+/**
+ * Each promise by itself, with answers worked out by hand from the document; those with six or more
+ * edges free, too many to work out so, are the ones that ../shared/tests gives for these positions.
+ */
 public final class PromisesTest {
     private static final int MAX = Integer.MAX_VALUE;
     private static final int MIN = Integer.MIN_VALUE;
